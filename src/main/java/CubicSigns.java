@@ -342,7 +342,7 @@ public final class CubicSigns {
     private int cubesAmong(int primeTo) {
         one.set(1, 0);
         modulus.reduce(one);
-        int rootsOfOne = seekRoot(one, NONE);
+        int rootsOfOne = seekResidue(true, one, NONE);
         return rootsOfOne < 1 ? 0 : primeTo / rootsOfOne;
     }
 
@@ -358,18 +358,25 @@ public final class CubicSigns {
             return UNFIT;
         }
         modulus.reduce(one);
-        return foundAnswer(seekRoot(one, k), k, what);
+        return foundAnswer(seekResidue(true, one, k), k, what);
     }
 
-    /** Looks for residues whose third power is n, till the k-th is in out: how many came. */
-    private int seekRoot(Num n, int k) {
+    /**
+     * Looks for residues whose third power (else: whose product with one) is the wanted residue,
+     * till the k-th is in out: how many came.
+     */
+    private int seekResidue(boolean cubes, Num wanted, int k) {
         int found = 0;
         for (long y = 0; y < modulus.step; y++) {
             for (long x = 0; x < modulus.width; x++) {
                 out.set(x, y);
-                out.cube();
+                if (cubes) {
+                    out.cube();
+                } else {
+                    out.multiply(one);
+                }
                 modulus.reduce(out);
-                if (out.isSame(n)) {
+                if (out.isSame(wanted)) {
                     found++;
                     if (found - 1 == k) {
                         out.set(x, y);
@@ -398,27 +405,7 @@ public final class CubicSigns {
         }
         modulus.reduce(one);
         modulus.reduce(two);
-        return foundAnswer(seekFactor(one, two, k), k, what);
-    }
-
-    /** Looks for residues that times n are m, till the k-th is in out: how many came. */
-    private int seekFactor(Num n, Num m, int k) {
-        int found = 0;
-        for (long y = 0; y < modulus.step; y++) {
-            for (long x = 0; x < modulus.width; x++) {
-                out.set(x, y);
-                out.multiply(n);
-                modulus.reduce(out);
-                if (out.isSame(m)) {
-                    found++;
-                    if (found - 1 == k) {
-                        out.set(x, y);
-                        return found;
-                    }
-                }
-            }
-        }
-        return found;
+        return foundAnswer(seekResidue(false, two, k), k, what);
     }
 
     private int foundAnswer(int found, int k, int what) {
@@ -1206,9 +1193,8 @@ public final class CubicSigns {
             if (size < 1) {
                 return isNought();
             }
-            long c = m.a - m.b;
-            long d = -m.b;
-            return (a * c - b * d) % size == 0 && (a * d + b * c - b * d) % size == 0;
+            // both parts of this times m turned
+            return (a * (m.a - m.b) + b * m.b) % size == 0 && (b * m.a - a * m.b) % size == 0;
         }
 
         /** By norm, then a, then b. */
@@ -1230,11 +1216,16 @@ public final class CubicSigns {
         }
 
         void multiply(Num n) {
-            set(a * n.a - b * n.b, a * n.b + b * n.a - b * n.b);
+            long bothOmegas = b * n.b;
+            long newB = a * n.b + b * n.a - bothOmegas;
+            a = a * n.a - bothOmegas;
+            b = newB;
         }
 
         void cube() {
-            set(a * a * a + b * b * b - 3 * a * b * b, 3 * a * b * (a - b));
+            long newB = 3 * a * b * (a - b);
+            a = a * a * a + b * b * b - 3 * a * b * b;
+            b = newB;
         }
 
         void turn() {
@@ -1243,7 +1234,9 @@ public final class CubicSigns {
 
         void multiplyByUnit(int u) {
             for (int i = 0; i < u && i < UNITS; i++) {
-                set(a - b, a);
+                long newB = a;
+                a = a - b;
+                b = newB;
             }
         }
 
@@ -1271,9 +1264,11 @@ public final class CubicSigns {
                 set(0, 0);
                 return;
             }
-            set(m.a - m.b, -m.b);
-            multiply(n);
-            set(Math.floorDiv(2 * a + size, 2 * size), Math.floorDiv(2 * b + size, 2 * size));
+            // n times m turned
+            long up = n.a * (m.a - m.b) + n.b * m.b;
+            long upOmegas = n.b * m.a - n.a * m.b;
+            a = Math.floorDiv(2 * up + size, 2 * size);
+            b = Math.floorDiv(2 * upOmegas + size, 2 * size);
         }
 
         /** Divides by 1 - w as often as that goes: how often; 0 stays as it is. */
@@ -1318,7 +1313,6 @@ public final class CubicSigns {
         private final Num nextOfFirst = new Num();
         private final Num nextOfSecond = new Num();
         private final Num q = new Num();
-        private final Num hold = new Num();
         private final long[] quotientA = new long[MOST];
         private final long[] quotientB = new long[MOST];
 
@@ -1341,13 +1335,15 @@ public final class CubicSigns {
             }
         }
 
+        /** The one two ahead less q times the one ahead. */
         private void goOn(Num before, Num now) {
-            hold.copy(now);
-            hold.multiply(q);
-            before.subtract(hold);
-            hold.copy(before);
-            before.copy(now);
-            now.copy(hold);
+            long bothOmegas = now.b * q.b;
+            long nextA = before.a - (now.a * q.a - bothOmegas);
+            long nextB = before.b - (now.a * q.b + now.b * q.a - bothOmegas);
+            before.a = now.a;
+            before.b = now.b;
+            now.a = nextA;
+            now.b = nextB;
         }
 
         void loadQuotient(int k, Num n) {
@@ -1417,7 +1413,8 @@ public final class CubicSigns {
                 return;
             }
             long times = Math.floorDiv(n.b, step);
-            n.set(Math.floorMod(n.a - times * slant, width), n.b - times * step);
+            n.a = Math.floorMod(n.a - times * slant, width);
+            n.b = n.b - times * step;
         }
 
         /** The residue of n to the k comes into answer. */
@@ -1879,8 +1876,8 @@ public final class CubicSigns {
             if (omega ? omegasTold : plainTold) {
                 return fault(TOLD_ALREADY, start);
             }
-            int size = digits == 0 ? 1 : value;
-            tell(omega, below ? -size : size);
+            int amount = digits == 0 ? 1 : value;
+            tell(omega, below ? -amount : amount);
             return 0;
         }
 
