@@ -50,7 +50,7 @@ public final class CubicSigns {
         tape = new Tape();
         euclid = new Euclid();
         modulus = new Modulus();
-        factors = new Factors(euclid);
+        factors = new Factors();
         primes = new Primes();
         rings = new Ring();
         letters = new Letters();
@@ -1448,14 +1448,10 @@ public final class CubicSigns {
         private final long[] primeA = new long[MOST];
         private final long[] primeB = new long[MOST];
         private final long[] norms = new long[MOST];
-        private final Euclid euclid;
+        private final Euclid euclid = new Euclid();
         private final Num left = new Num();
         private final Num found = new Num();
         private final Num product = new Num();
-
-        Factors(Euclid shared) {
-            euclid = shared;
-        }
 
         /** Of n, not 0. */
         void spell(Num n) {

@@ -983,6 +983,7 @@ public final class PromisesTest {
         }
         due("n", x.ring(-1, 0), NONE);
         due("n", x.ring(1000001, 0), NONE);
+        due("n, of which there are some", x.ring(1000003, 0), NONE);
         due("what", x.ring(1, 3), NONE);
         due("what", x.ring(1, -1), NONE);
     }
@@ -1015,6 +1016,7 @@ public final class PromisesTest {
         due("none", x.ringAt(2, 0, 0), NO);
         due("n", x.ringAt(-1, 0, 0), NO);
         due("n", x.ringAt(1000001, 0, 0), NO);
+        due("n, of which there are some", x.ringAt(1000003, 0, 0), NO);
         due("what", x.ringAt(1, 0, 2), NO);
         due("what", x.ringAt(1, 0, -1), NO);
     }
