@@ -711,6 +711,7 @@ public final class ClassesBoundsTest {
     private static void greatest() {
         greatestByTheLimit();
         greatestByUnit();
+        greatestOfThosePrimeTo();
         greatestUnfit();
         greatestEmpty();
         greatestNoSuchOnes();
@@ -735,6 +736,18 @@ public final class ClassesBoundsTest {
         // by 1 - w: 1 and -1
         bounds.due(2, Bounds.with(1, -1), "greatest", 0, 0);
         bounds.due(1, Bounds.with(1, -1), "greatest", 0, 1);
+    }
+
+    private static void greatestOfThosePrimeTo() {
+        bounds.promise(21, "Of all classes PRIME TO a DRAWER's");
+        int[][] moduli = {{22, 0}, {3, 0}, {21, 0}, {6, 0}, {2, 0}, {9, 0}, {4, 6}, {7, 0}, {12, 0}, {3, -3}};
+        CubicSigns x = new CubicSigns();
+        for (int[] m : moduli) {
+            x.put(0, m[0], m[1]);
+            int[] want = Oracle.greatest(new Oracle.Z(m[0], m[1]));
+            bounds.due(want[0], x, "greatest", 0, 0);
+            bounds.due(want[1], x, "greatest", 0, 1);
+        }
     }
 
     private static void greatestUnfit() {

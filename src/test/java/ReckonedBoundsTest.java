@@ -648,8 +648,11 @@ public final class ReckonedBoundsTest {
         bounds.due(NO, x, "written", 0, 2, 0);
         bounds.due(NO, x, "written", 0, Integer.MAX_VALUE, 0);
         bounds.due(2, x, "written", 1, 0, 0);
-        // the primes of an earlier number are gone
+        // the primes and the unit of an earlier number are gone
         bounds.due(NO, x, "written", 1, 1, 0);
+        bounds.due(5, x, "written", 0, NONE, 2);
+        bounds.due(0, x, "written", 1, NONE, 2);
+        bounds.due(1, x, "written", 1, NONE, 0);
     }
 
     private static void writtenNought() {
@@ -717,6 +720,9 @@ public final class ReckonedBoundsTest {
         divisorsAs(4, 0, 3, 21, 12, 0);
         divisorsAs(7, 0, 4, 64, 36, 1);
         divisorsAs(84, 0, 36, 13 * 21 * 64, 6 * 12 * 36, 0);
+        // -1 - 3 w times -1 + 3 w, of one a; 2 + 3 w times 5 + 3 w, of one b
+        divisorsAs(10, 9, 4, 8 * 14, 6 * 12, 1);
+        divisorsAs(12, 11, 4, 8 * 20, 6 * 18, 1);
     }
 
     private static void divisorsOfGreatest() {

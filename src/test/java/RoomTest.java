@@ -1,11 +1,15 @@
 import java.lang.management.ManagementFactory;
 import java.lang.reflect.InvocationTargetException;
 import java.lang.reflect.Method;
+import java.util.ArrayDeque;
 import java.util.Arrays;
 import java.util.Comparator;
 import java.util.Random;
 
-/** Any calls with any arguments: none throws, a refused one changes nothing, like runs answer alike, and none makes objects. */
+/**
+ * Any calls with any arguments: none throws, a refused one changes nothing, like runs answer alike,
+ * a used object answers as a new one in the same state, and no call makes objects.
+ */
 public final class RoomTest {
     private static final int[] EDGES = {
         Integer.MIN_VALUE, -9999, -10000, -3, -2, -1, 0, 1, 2, 3, 7, 8, 12, 13, 19, 31, 39, 40, 41,
@@ -20,6 +24,9 @@ public final class RoomTest {
         check.due("calls of the face", calls.length, 46);
         for (int seed = 0; seed < 300; seed++) {
             anyRun(calls, seed);
+        }
+        for (int seed = 0; seed < 100; seed++) {
+            usedAndNew(calls, seed);
         }
         makesNoObjects();
         check.end();
@@ -47,6 +54,64 @@ public final class RoomTest {
                 check.due(text + " threw " + thrown.getCause(), false, true);
             }
         }
+    }
+
+    /** Nothing but the drawers, the tape and what is kept tells what a call answers. */
+    private static void usedAndNew(Method[] calls, int seed) throws Exception {
+        Random random = new Random(1000 + seed);
+        CubicSigns used = new CubicSigns();
+        ArrayDeque<int[]> fed = new ArrayDeque<>();
+        for (int i = 0; i < 400; i++) {
+            Method call = calls[random.nextInt(calls.length)];
+            Object[] values = new Object[call.getParameterCount()];
+            for (int k = 0; k < values.length; k++) {
+                values[k] = call.getName().equals("feed") ? letters(random) : nearValue(random);
+            }
+            if (random.nextInt(3) == 0) {
+                used.put(random.nextInt(8), random.nextInt(31) - 15, random.nextInt(31) - 15);
+            }
+            if (call.getName().matches("keep|undo") || call.getName().equals("count") && values[0].equals(2)) {
+                continue;
+            }
+            CubicSigns fresh = likeOf(used, fed);
+            Object answer = call.invoke(used, values);
+            check.due(call.getName() + Arrays.toString(values) + " of a new one", answer.equals(call.invoke(fresh, values)), true);
+            check.due(call.getName() + Arrays.toString(values) + " leaves the same", Arrays.equals(state(used), state(fresh)), true);
+            if (call.getName().equals("feed") && !isRefused(answer)) {
+                fed.add(Arrays.stream(values).mapToInt(v -> (Integer) v).toArray());
+            }
+            if (used.count(1) == 0) {
+                fed.clear();
+            }
+        }
+    }
+
+    private static CubicSigns likeOf(CubicSigns used, ArrayDeque<int[]> fed) {
+        CubicSigns fresh = new CubicSigns();
+        for (int d = 0; d < 8; d++) {
+            fresh.put(d, used.told(d, 0), used.told(d, 1));
+        }
+        for (int[] words : fed) {
+            fresh.feed(words[0], words[1], words[2], words[3], words[4]);
+        }
+        return fresh;
+    }
+
+    private static int letters(Random random) {
+        String likely = "0123456789ww+-+-  ";
+        int four = 0;
+        for (int i = 0; i < 4; i++) {
+            four = four << 8 | likely.charAt(random.nextInt(likely.length()));
+        }
+        return four;
+    }
+
+    private static int nearValue(Random random) {
+        int kind = random.nextInt(12);
+        if (kind == 0) {
+            return EDGES[random.nextInt(EDGES.length)];
+        }
+        return kind < 9 ? random.nextInt(8) : random.nextInt(6) - 2;
     }
 
     private static boolean isRefused(Object answer) {

@@ -215,8 +215,15 @@ public final class TapeBoundsTest {
         Bounds.feed(x, "-1");
         bounds.due(0, x, "write", 1, 2);
         bounds.holds(x, 0, 8, 9);
-        // the sort that is not told is 0
+        // the sort that is not told is 0, whatever an earlier text told
         bounds.holds(x, 1, -1, 0);
+        String[] texts = {"5+6w", "7", "8w", "9-w", "w", "4"};
+        int[][] parts = {{5, 6}, {7, 0}, {0, 8}, {9, -1}, {0, 1}, {4, 0}};
+        for (int i = 0; i < texts.length; i++) {
+            Bounds.feed(x, texts[i]);
+            bounds.due(0, x, "write", 0, texts[i].length());
+            bounds.holds(x, 0, parts[i][0], parts[i][1]);
+        }
     }
 
     // ---- texts
