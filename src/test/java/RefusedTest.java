@@ -94,22 +94,38 @@ public final class RefusedTest {
         bounds.promise(promise, "Of several reasons NONE comes first, then -2, and so on (" + reasons + ")");
     }
 
-    // ---- promises 2 to 5
+    // ---- promises 2 to 6
 
     private static void store() {
+        writeRefused();
+        faultChangesTheTapeAlone();
+        fullTapeRefuses();
+        putRefused();
+        takeRefused();
+        toldRefused();
+    }
+
+    private static void writeRefused() {
         leavesAll(3);
         refused(NONE, "write", 8, 4);
         refused(NONE, "write", 0, 0);
         refused(NONE, "write", 0, 21);
         refused(NONE, "write", 0, 41);
-        faultChangesTheTapeAlone();
-        fullTapeRefuses();
+    }
+
+    private static void putRefused() {
         leavesAll(4);
         refused(0, "put", 8, 1, 1);
         refused(0, "put", 0, 10000, 1);
         refused(0, "put", 0, 1, -10000);
+    }
+
+    private static void takeRefused() {
         leavesAll(5);
         refused(NONE, "take", 8);
+    }
+
+    private static void toldRefused() {
         leavesAll(6);
         refused(NO, "told", EMPTY, 0);
         refused(NO, "told", 8, 0);
@@ -144,6 +160,15 @@ public final class RefusedTest {
     // ---- promises 7 to 12
 
     private static void reckoned() {
+        workRefused();
+        changeRefused();
+        areRefused();
+        writtenRefused();
+        divisorsRefused();
+        signByRefused();
+    }
+
+    private static void workRefused() {
         leavesAll(7);
         for (int f = 0; f < 8; f++) {
             refused(-2, "work", EMPTY, PRIME, f, 0);
@@ -165,23 +190,30 @@ public final class RefusedTest {
         refused(-2, "work", EMPTY, NOUGHT, 0, 3);
         refused(-2, "work", EMPTY, NOUGHT, 0, 4);
         refused(-2, "work", NOUGHT, EMPTY, 0, 5);
-        changeRefused();
+    }
+
+    private static void areRefused() {
         leavesAll(9);
         refused(-2, "are", EMPTY, PRIME, 0);
         first(9, "NONE, -2");
         refused(NONE, "are", EMPTY, PRIME, 3);
         refused(NONE, "are", EMPTY, 8, 0);
         refused(NONE, "are", -1, EMPTY, 0);
+    }
+
+    private static void writtenRefused() {
         leavesAll(10);
         refused(NO, "written", NOUGHT, NONE, 0);
         refused(NO, "written", EMPTY, NONE, 0);
         refused(NO, "written", PRIME, 1, 0);
         refused(NO, "written", PRIME, -2, 0);
+    }
+
+    private static void divisorsRefused() {
         leavesAll(11);
         refused(NO_LONG, "divisors", NOUGHT, 0);
         refused(NO_LONG, "divisors", EMPTY, 0);
         refused(NO_LONG, "divisors", PRIME, 4);
-        signByRefused();
     }
 
     private static void changeRefused() {
@@ -220,6 +252,17 @@ public final class RefusedTest {
     // ---- promises 13 to 16, 19 to 22
 
     private static void classesByOne() {
+        residueRefused();
+        powerRefused();
+        inverseRefused();
+        classesRefused();
+        spreadRefused();
+        orderRefused();
+        greatestRefused();
+        leastRefused();
+    }
+
+    private static void residueRefused() {
         leavesAll(13);
         refused(-2, "residue", PRIME, EMPTY, 0);
         refused(-3, "residue", PRIME, NOUGHT, 0);
@@ -228,6 +271,9 @@ public final class RefusedTest {
         refused(NONE, "residue", EMPTY, 8, 0);
         refused(NONE, "residue", PRIME, NOUGHT, 2);
         refused(-2, "residue", EMPTY, NOUGHT, 0);
+    }
+
+    private static void powerRefused() {
         leavesAll(14);
         refused(-2, "power", PRIME, 1, EMPTY, 0);
         refused(-3, "power", PRIME, 1, NOUGHT, 0);
@@ -237,6 +283,9 @@ public final class RefusedTest {
         refused(NONE, "power", EMPTY, 1, 8, 0);
         refused(NONE, "power", PRIME, 1000000001, NOUGHT, 0);
         refused(-2, "power", EMPTY, 1, NOUGHT, 0);
+    }
+
+    private static void inverseRefused() {
         leavesAll(15);
         refused(-2, "inverse", PRIME, EMPTY, 0);
         refused(-3, "inverse", PRIME, NOUGHT, 0);
@@ -247,6 +296,9 @@ public final class RefusedTest {
         refused(NONE, "inverse", NOUGHT, PRIME, 2);
         refused(-2, "inverse", EMPTY, NOUGHT, 0);
         refused(-3, "inverse", NOUGHT, NOUGHT, 0);
+    }
+
+    private static void classesRefused() {
         leavesAll(16);
         refused(-2, "classes", EMPTY, 0);
         refused(-3, "classes", NOUGHT, 0);
@@ -256,6 +308,9 @@ public final class RefusedTest {
         refused(NONE, "classes", EMPTY, 3);
         refused(NONE, "classes", NOUGHT, 3);
         refused(NONE, "classes", WIDE, -1);
+    }
+
+    private static void spreadRefused() {
         leavesAll(19);
         refused(-2, "spread", EMPTY, 0);
         refused(-3, "spread", WIDE, 0);
@@ -263,6 +318,9 @@ public final class RefusedTest {
         refused(NONE, "spread", EMPTY, 2001);
         refused(NONE, "spread", WIDE, 2001);
         refused(NONE, "spread", NOUGHT, -1);
+    }
+
+    private static void orderRefused() {
         leavesAll(20);
         refused(-2, "order", PRIME, EMPTY);
         refused(-3, "order", PRIME, NOUGHT);
@@ -274,6 +332,9 @@ public final class RefusedTest {
         refused(-2, "order", EMPTY, WIDE);
         refused(-3, "order", WIDE, WIDE);
         refused(-3, "order", NOUGHT, NOUGHT);
+    }
+
+    private static void greatestRefused() {
         leavesAll(21);
         refused(-2, "greatest", EMPTY, 0);
         refused(-3, "greatest", WIDE, 0);
@@ -281,6 +342,9 @@ public final class RefusedTest {
         refused(NONE, "greatest", EMPTY, 2);
         refused(NONE, "greatest", NOUGHT, 2);
         refused(NONE, "greatest", WIDE, -1);
+    }
+
+    private static void leastRefused() {
         leavesAll(22);
         refused(NO, "least", PRIME, EMPTY, 0);
         refused(NO, "least", PRIME, NOUGHT, 0);
@@ -294,6 +358,12 @@ public final class RefusedTest {
     // ---- promises 17, 18 and 23
 
     private static void classesByMore() {
+        rootRefused();
+        linearRefused();
+        bothRefused();
+    }
+
+    private static void rootRefused() {
         leavesAll(17);
         refused(-2, "root", EMPTY, PRIME, NONE, 0);
         refused(-3, "root", PRIME, WIDE, NONE, 0);
@@ -315,6 +385,9 @@ public final class RefusedTest {
         first(17, "-3, -4");
         refused(-3, "root", PRIME, NOUGHT, 99, 0);
         refused(-3, "root", PRIME, WIDE, 9999, 0);
+    }
+
+    private static void linearRefused() {
         leavesAll(18);
         refused(-2, "linear", PRIME, PRIME, EMPTY, NONE, 0);
         refused(-3, "linear", PRIME, PRIME, WIDE, NONE, 0);
@@ -335,7 +408,6 @@ public final class RefusedTest {
         first(18, "-3, -4");
         refused(-3, "linear", PRIME, PRIME, NOUGHT, 99, 0);
         refused(-3, "linear", PRIME, PRIME, WIDE, 9999, 0);
-        bothRefused();
     }
 
     private static void bothRefused() {
@@ -366,21 +438,37 @@ public final class RefusedTest {
     // ---- promises 24 to 27
 
     private static void partingsAndSteps() {
+        partingRefused();
+        partingsRefused();
+        stepsRefused();
+        directRefused();
+    }
+
+    private static void partingRefused() {
         leavesAll(24);
         refused(NO, "parting", PRIME, EMPTY, NONE, 0);
         refused(NO, "parting", PRIME, NOUGHT, 0, 0);
         refused(NO, "parting", PRIME, TWO, 99, 0);
         refused(NO, "parting", PRIME, TWO, 0, 2);
+    }
+
+    private static void partingsRefused() {
         leavesAll(25);
         refused(-2, "partings", PRIME, EMPTY);
         first(25, "NONE, -2");
         refused(NONE, "partings", EMPTY, 8);
         refused(NONE, "partings", -1, EMPTY);
+    }
+
+    private static void stepsRefused() {
         leavesAll(26);
         refused(-2, "steps", PRIME, EMPTY);
         first(26, "NONE, -2");
         refused(NONE, "steps", EMPTY, 8);
         refused(NONE, "steps", -1, EMPTY);
+    }
+
+    private static void directRefused() {
         leavesAll(27);
         refused(-2, "direct", PRIME, EMPTY, 0);
         refused(-3, "direct", PRIME, UNIT, 0);
@@ -395,6 +483,12 @@ public final class RefusedTest {
     // ---- promises 28 to 30
 
     private static void signs() {
+        signRefused();
+        turnedRefused();
+        supplementRefused();
+    }
+
+    private static void signRefused() {
         leavesAll(28);
         refused(-2, "sign", PRIME, EMPTY);
         refused(-3, "sign", PRIME, THREE);
@@ -405,6 +499,9 @@ public final class RefusedTest {
         refused(-2, "sign", EMPTY, NOUGHT);
         refused(-2, "sign", EMPTY, UNIT);
         refused(-2, "sign", EMPTY, THREE);
+    }
+
+    private static void turnedRefused() {
         leavesAll(29);
         refused(-2, "turned", PRIME, EMPTY);
         refused(-3, "turned", PRIME, UNIT);
@@ -413,6 +510,9 @@ public final class RefusedTest {
         refused(NONE, "turned", 8, UNIT);
         refused(-2, "turned", UNIT, EMPTY);
         refused(-2, "turned", EMPTY, THREE);
+    }
+
+    private static void supplementRefused() {
         leavesAll(30);
         refused(-2, "supplement", EMPTY, 0);
         refused(-3, "supplement", THREE, 0);
@@ -425,28 +525,56 @@ public final class RefusedTest {
     // ---- promises 31 to 37
 
     private static void wholePrimes() {
+        primeRefused();
+        sumRefused();
+        splitRefused();
+        thirdsRefused();
+        primeAtRefused();
+        crowdRefused();
+        letterRefused();
+    }
+
+    private static void primeRefused() {
         leavesAll(31);
         refused(NO, "prime", 5, 0);
         refused(NO, "prime", 7, 8);
+    }
+
+    private static void sumRefused() {
         leavesAll(32);
         refused(NO, "sum", 5, 0);
         refused(NO, "sum", 7, 4);
+    }
+
+    private static void splitRefused() {
         leavesAll(33);
         refused(NONE, "split", 5, 0);
         refused(NONE, "split", 7, 8);
+    }
+
+    private static void thirdsRefused() {
         leavesAll(34);
         refused(-2, "thirds", 80);
         refused(-3, "thirds", -2);
+    }
+
+    private static void primeAtRefused() {
         leavesAll(35);
         refused(NO, "primeAt", 303, 0);
         refused(NO, "primeAt", -2, 0);
         refused(NO, "primeAt", 0, 3);
+    }
+
+    private static void crowdRefused() {
         leavesAll(36);
         refused(-2, "crowd", EMPTY, 1, 0);
         first(36, "NONE, -2");
         refused(NONE, "crowd", EMPTY, 0, 0);
         refused(NONE, "crowd", EMPTY, 101, 0);
         refused(NONE, "crowd", EMPTY, 1, 4);
+    }
+
+    private static void letterRefused() {
         leavesAll(37);
         refused(-2, "letter", EMPTY, 0);
         refused(-3, "letter", PRIME, 4);
@@ -458,25 +586,53 @@ public final class RefusedTest {
     // ---- promises 38 to 44
 
     private static void floatsAndRings() {
+        lengthRefused();
+        middleRefused();
+        nearestRefused();
+        nearestAlone();
+        ringRefused();
+        diskRefused();
+        ringAtRefused();
+        drawnRefused();
+    }
+
+    private static void lengthRefused() {
         leavesAll(38);
         refused(-2, "length", EMPTY);
         refused(NONE, "length", 8);
+    }
+
+    private static void middleRefused() {
         leavesAll(39);
         refused(NO, "middle", 2);
+    }
+
+    private static void nearestRefused() {
         leavesAll(40);
         refused(-2, "nearest", EMPTY, 0);
         first(40, "NONE, -2");
         refused(NONE, "nearest", EMPTY, 2);
-        nearestAlone();
+    }
+
+    private static void ringRefused() {
         leavesAll(41);
         refused(NONE, "ring", 1000001, 0);
         refused(NONE, "ring", 1, 3);
+    }
+
+    private static void diskRefused() {
         leavesAll(42);
         refused(NONE, "disk", 1000001, 0);
         refused(NONE, "disk", 1, 2);
+    }
+
+    private static void ringAtRefused() {
         leavesAll(43);
         refused(NO, "ringAt", 1, 6, 0);
         refused(NO, "ringAt", 1000001, 0, 0);
+    }
+
+    private static void drawnRefused() {
         leavesAll(44);
         refused(NONE, "drawn", 8, 1, 1);
         refused(NONE, "drawn", 0, 1, 0);
