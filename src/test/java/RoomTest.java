@@ -1,6 +1,9 @@
 import java.lang.management.ManagementFactory;
+import java.lang.reflect.Array;
+import java.lang.reflect.Field;
 import java.lang.reflect.InvocationTargetException;
 import java.lang.reflect.Method;
+import java.lang.reflect.Modifier;
 import java.util.ArrayDeque;
 import java.util.Arrays;
 import java.util.Comparator;
@@ -19,7 +22,7 @@ public final class RoomTest {
 
     public static void main(String[] args) throws Exception {
         Method[] calls = Arrays.stream(CubicSigns.class.getDeclaredMethods())
-            .filter(m -> java.lang.reflect.Modifier.isPublic(m.getModifiers()))
+            .filter(m -> Modifier.isPublic(m.getModifiers()))
             .sorted(Comparator.comparing(Method::getName)).toArray(Method[]::new);
         check.due("calls of the face", calls.length, 46);
         for (int seed = 0; seed < 300; seed++) {
@@ -29,6 +32,7 @@ public final class RoomTest {
             usedAndNew(calls, seed);
         }
         makesNoObjects();
+        newOnesAreSmall();
         check.end();
     }
 
@@ -200,5 +204,30 @@ public final class RoomTest {
         x.write(5, 6);
         x.keep();
         x.undo();
+    }
+    /** A room holds some 600,000 objects and 7.3 million fields and elements: a thousand new ones fit in with ease. */
+    private static void newOnesAreSmall() throws Exception {
+        int[] made = new int[2];
+        addMade(new CubicSigns(), made);
+        check.due("objects and arrays of a new one: " + made[0], made[0] > 10 && made[0] <= 100, true);
+        check.due("fields and elements of a new one: " + made[1], made[1] > 1000 && made[1] <= 5000, true);
+    }
+
+    /** Adds the object, or array of numbers, and all that its fields hold. */
+    private static void addMade(Object made, int[] counts) throws Exception {
+        counts[0]++;
+        if (made.getClass().isArray()) {
+            counts[1] += Array.getLength(made);
+            return;
+        }
+        for (Field field : made.getClass().getDeclaredFields()) {
+            if (!Modifier.isStatic(field.getModifiers())) {
+                counts[1]++;
+                field.setAccessible(true);
+                if (!field.getType().isPrimitive()) {
+                    addMade(field.get(made), counts);
+                }
+            }
+        }
     }
 }

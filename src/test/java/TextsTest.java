@@ -60,7 +60,7 @@ public final class TextsTest {
         return matcher.matches() || matcher.hitEnd();
     }
 
-    private static int fault(String text) {
+    static int fault(String text) {
         int wrong = 0;
         while (wrong < text.length() && canGoOn(text.substring(0, wrong + 1))) {
             wrong++;
@@ -82,7 +82,7 @@ public final class TextsTest {
         return (fifth ? -2000 : -1000) - wrong;
     }
 
-    private static int[] parts(String text) {
+    static int[] parts(String text) {
         int[] parts = new int[2];
         Matcher part = PART.matcher(text);
         while (part.find()) {
@@ -100,13 +100,18 @@ public final class TextsTest {
         for (int k = 0; k < x.letter(0, CubicSigns.NONE); k++) {
             text.append((char) x.letter(0, k));
         }
-        String first = a != 0 || b == 0 ? Integer.toString(a) : "";
-        String second = b == 0 ? "" : (b > 0 && a != 0 ? "+" : "") + b + "w";
-        String want = first + second.replaceFirst("^([+-]?)1w$", "$1w");
+        String want = letters(a, b);
         check.due("letters of " + want + ": " + text, text.toString().equals(want), true);
         feed(x, text.toString());
         check.due("write '" + text + "'", x.write(1, text.length()), 0);
         check.due("a", x.told(1, 0), a);
         check.due("b", x.told(1, 1), b);
+    }
+
+    /** What letter() has to tell of a + b w. */
+    static String letters(int a, int b) {
+        String first = a != 0 || b == 0 ? Integer.toString(a) : "";
+        String second = b == 0 ? "" : (b > 0 && a != 0 ? "+" : "") + b + "w";
+        return first + second.replaceFirst("^([+-]?)1w$", "$1w");
     }
 }
